@@ -10,7 +10,7 @@ public final class WellTurns {
     private static final int SWELLS_AT = 12, SWOLLEN_FOR = 5, SPLICED_FOR = 3;
     private static final int LAST_MINUTE = 9999, MOST_AT_ONCE = 60;
     private static final int FORESEEN = 240;
-    private static final int MILLION = 1000000;
+    private static final int MILLION = 1000000, LOWEST_31_BITS = 0x7fffffff;
     private static final int EVERYONE = 127;
     private static final int NOBODY_SHOULD = 7;
     private static final int MOST_UNDONE = 8;
@@ -305,9 +305,10 @@ public final class WellTurns {
         int pullerBit = camp.puller == NONE ? 0 : 1 << camp.puller;
         int bestSet = 0;
         int most = -1;
+        foretell();
         for (int set = 0; set < 1 << camp.beasts && most < camp.beasts; set++) {
             if ((set & pullerBit) == 0) {
-                foretell();
+                trial.takeFrom(moment);
                 play(n, set);
                 int sated = Integer.bitCount(trial.satedSet(trialCamp));
                 if (sated > most) {
@@ -433,7 +434,7 @@ public final class WellTurns {
             return BAD;
         }
         int best = 0;
-        int bestWaits = Integer.MAX_VALUE;
+        int bestWaits = MOST_BEASTS * FORESEEN + 1;
         for (int law = 0; law <= LAST_LAW; law++) {
             foretellDone(law);
             int one = herdWaits(0);
@@ -608,6 +609,8 @@ public final class WellTurns {
         private final int[] kind = new int[MOST_BEASTS];
         private final int[] days = new int[MOST_BEASTS];
         private final int[] herd = new int[MOST_BEASTS];
+        /** What one NEEDS, but for what it PULLED. */
+        private final int[] thirst = new int[MOST_BEASTS];
         /** By LAW, once arrange has been called: who is the k-th. */
         private final int[] order = new int[MOST_BEASTS];
         private int lined;
@@ -624,6 +627,7 @@ public final class WellTurns {
             System.arraycopy(other.kind, 0, kind, 0, MOST_BEASTS);
             System.arraycopy(other.days, 0, days, 0, MOST_BEASTS);
             System.arraycopy(other.herd, 0, herd, 0, MOST_BEASTS);
+            System.arraycopy(other.thirst, 0, thirst, 0, MOST_BEASTS);
         }
 
         boolean lacks(int b) {
@@ -635,6 +639,7 @@ public final class WellTurns {
                 kind[beasts] = itsKind;
                 days[beasts] = itsDays;
                 herd[beasts] = itsHerd;
+                thirst[beasts] = 3 * itsDays + (milky(itsKind) ? 5 : 0);
                 beasts++;
             }
         }
@@ -749,8 +754,7 @@ public final class WellTurns {
         }
 
         int needs(Camp camp, int b) {
-            int more = milky(camp.kind[b]) ? 5 : 0;
-            return 3 * camp.days[b] + pulled[b] / 3 + more;
+            return camp.thirst[b] + pulled[b] / 3;
         }
 
         private int needsYet(Camp camp, int b) {
@@ -849,10 +853,11 @@ public final class WellTurns {
             int gone = 0;
             for (int k = 0; k < camp.beasts; k++) {
                 int b = camp.order[k];
+                int yet = needsYet(camp, b);
                 int drinks = 0;
-                if (left > 0 && (let >> b & 1) == 1 && mayDrink(camp, b)) {
+                if (left > 0 && (let >> b & 1) == 1 && b != camp.puller && swollen[b] == 0 && yet > 0) {
                     left--;
-                    drinks = Math.min(gulp(camp.kind[b]), Math.min(needsYet(camp, b), trough));
+                    drinks = Math.min(gulp(camp.kind[b]), Math.min(yet, trough));
                     drunk[b] += drinks;
                     trough -= drinks;
                     gone += drinks;
@@ -860,10 +865,6 @@ public final class WellTurns {
                 swell(camp.kind[b], b, drinks);
             }
             return gone;
-        }
-
-        private boolean mayDrink(Camp camp, int b) {
-            return b != camp.puller && swollen[b] == 0 && !sated(camp, b);
         }
 
         /** What the MINUTE leaves of being SWOLLEN, by what one drank in it. */
@@ -880,7 +881,7 @@ public final class WellTurns {
 
         /** Behind a bucket drawn in a DRIFT: THE DRAW goes on; whether THE ROPE broke by it. */
         boolean ropeBreaks() {
-            draw = draw * 1103515245 + 12345 & Integer.MAX_VALUE;
+            draw = (draw * 1103515245 + 12345) & LOWEST_31_BITS;
             if (draw / 65536 % 100 >= wear / 10) {
                 return false;
             }

@@ -24,7 +24,8 @@ public final class LanguageTest {
     private static final String[] CONSTANTS = {"BAD", "NOT", "FULL", "NONE", "NULL", "CAST", "INDEX", "SIZE"};
     private static final int[] WORTH = {-1, -2, -3, -4, -11, -12, -13, -14};
     private static final String[] RULED_OUT = {"import", "try", "catch", "finally", "throw", "synchronized", "assert", "double",
-        "float", "->", "::", "package", "native", "equals", "hashCode", "toString", "System.out", "while (true)", "var "};
+        "float", "->", "::", "package", "native", "equals", "hashCode", "toString", "System.out", "while (true)", "var ", "MAX_VALUE",
+        "MIN_VALUE"};
 
     private LanguageTest() {
     }

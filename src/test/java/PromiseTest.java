@@ -189,6 +189,16 @@ public final class PromiseTest {
         due("8, nothing, 4", w.of(0, 7), 0);
         w.minutes(2);
         due("12 again", w.of(0, 7), 5);
+        WellTurns u = camp("60,0;g9");
+        u.well(3, 9);
+        u.minutes(2);
+        u.well(3, 7);
+        u.minutes(1);
+        due("11 in three MINUTES", u.of(0, 4), 11);
+        due("not yet", u.of(0, 7), 0);
+        u.well(3, 2);
+        due("12 in four", u.minutes(1), 1);
+        due("SWOLLEN", u.of(0, 7), 5);
         WellTurns v = camp("60,0;m9");
         v.well(3, 9);
         v.minutes(8);
