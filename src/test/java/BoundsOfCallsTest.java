@@ -589,6 +589,7 @@ public final class BoundsOfCallsTest {
             // within one row: up, down, upon itself
             x.copy(1, 0, 1, 2, 6).is(6).buckets(1, lane, 2, 1).is(ALL_SIZES).buckets(1, lane, 6, 1).is(1 << 4).buckets(1, lane, 2, 3).is(1 << 4);
             x.row(1, lane, 7, 7, 0, 60, 1, 56, 2, 52).copy(1, 2, 1, 0, 6).is(6).buckets(1, lane, 0, 4).is(1 << 4).copy(1, 0, 1, 0, 8).is(8);
+            x.buckets(1, lane, 0, 1).is(ALL_SIZES).item(1, lane, 2, 0).is(1).buckets(1, lane, 2, 1).is(0).item(1, lane, 3, 60).buckets(1, lane, 2, 1).is(ALL_SIZES);
             x.row(1, lane, 0, 60, 1, 56, 2, 52, 7).copy(1, 0, 1, 1, 6).is(6).buckets(1, lane, 1, 3).is(1 << 4);
             // of 0 items, at the rows' ends too; of empty rows
             x.copy(0, 6, 1, 7, 0).is(0).copy(0, 0, 1, 0, 0).is(0).sheet(2, lane, 0).is(0).copy(2, 0, 2, 0, 0).is(0).copy(2, 0, 1, 7, 0).is(0);

@@ -411,6 +411,15 @@ public final class BoundsOfTermsTest {
         Well x = Well.at("60,0;p9,g8,m9").well(RISE, 1).pull(0).well(BUCKET, 8).well(PLACES, 1);
         x.minutes(1).is(8).well(LAW, 1).minutes(1).is(4).each(DRUNK, 0, 8, 4).well(LAW, 0).minutes(1).is(8).of(1, SWOLLEN).is(0)
             .minutes(1).is(8).of(1, SWOLLEN).is(5);
+        // such a MINUTE leaves nothing of what was: 8, nothing, 8 and 3; nothing, 8 and 3
+        for (int drunk : new int[] {8, 0}) {
+            Well w = greedy().well(BUCKET, 8);
+            if (drunk > 0) {
+                w.minutes(1).is(drunk);
+            }
+            w.well(FROM, 60).well(WATER, 0).well(RISE, 40).minutes(1).is(0).well(WATER, 60).well(FROM, 0).minutes(1).is(8);
+            w.well(BUCKET, 3).minutes(1).is(3).of(1, SWOLLEN).is(0).well(BUCKET, 1).minutes(1).is(1).of(1, SWOLLEN).is(5).of(1, DRUNK).is(drunk + 12);
+        }
         // of no other KIND
         Well.at("60,0;p9,m9,p9,y9").well(RISE, 1).well(BUCKET, 9).pull(0).minutes(9).each(SWOLLEN, 0, 0, 0, 0);
         says("it is SWOLLEN in the next 5 (it begins anew then)");
@@ -545,6 +554,12 @@ public final class BoundsOfTermsTest {
         slow(0).done(6).is(NONE).done(5).is(212);
         slow(2).done(6).is(239);
         Well x = Well.at("60,0;p1,p9").done(0).is(2).minutes(1).done(0).is(1).minutes(1).done(0).is(0);
+        // while nothing else goes on: the first is SWOLLEN for 2 MINUTES yet, THE WELL and THE TROUGH are full
+        Well.at("60,0;g9,p9").well(BUCKET, 9).pull(1).minutes(5).of(0, SWOLLEN).is(2).count(THE_TROUGH).is(24).well(WATER, 60).done(0).is(4).all().is(4);
+        // a gallon that is drawn, one that is DRUNK and nothing else
+        Well.at("60,0;p9").well(BUCKET, 1).pull(0).water(1).is(59).water(2).is(58).water(9).is(51);
+        Well.at("60,0;p9,p1").well(BUCKET, 1).pull(0).water(1).is(59).water(2).is(58).done(1).is(3);
+        Well.at("60,0;y1,p1,p9").well(BUCKET, 9).well(PLACES, 1).pull(2).minutes(1).is(2).well(FROM, 60).done(0).is(1).done(1).is(2).all().is(2);
         // the first: by PULLING it is not SATED for ever
         x.pull(0).done(0).is(0).minutes(3).of(0, SATED).is(0).done(0).is(NONE);
     }
@@ -581,6 +596,10 @@ public final class BoundsOfTermsTest {
         Well.at("50,4;p1,p1,p2").pulls(0).is(2).pulls(1).is(2);
         Well.at("50,4;p1,p1,p1,p1,p1,p1,p9").pulls(0).is(6).pulls(1).is(5);
         Well.at("50,4;p9").pulls(0).is(0).pulls(1).is(0);
+        // nobody PULLS half a bucket: 6 MINUTES for 12 gallons; one that PULLS: 3 for the other's 6
+        Well.at("60,0;y2,y2").pulls(0).is(0).pulls(1).is(3).all().is(6);
+        // one that is not there can't PULL, though a whole bucket for all three would do in 9
+        Well.at("15,14;g7b,m7,g3").well(RISE, 9).well(BUCKET, 8).well(LAW, 1).minutes(5).pulls(0).is(1).pulls(1).is(11);
         Well.at("50,4;p1,p1").minutes(3).count(SATED_SET).is(3).pulls(0).is(7).pulls(1).is(0);
     }
 
@@ -829,6 +848,7 @@ public final class BoundsOfTermsTest {
         x.reads("61,20;p1").is(-20).reads("60,21;p1").is(-23).reads("99,99;p1").is(-20).reads("9,99;p1").is(-22);
         x.reads("60;20;p1").is(-22).reads(",20;p1").is(-20).reads("60,;p1").is(-23).reads("-1,1;p1").is(-20);
         x.count(THE_WATER).is(60).count(9).is(20);
+        x.reads("p1").is(-20).reads("5p1").is(-21).reads("5,p1").is(-22).reads(";p1").is(-20).reads("5;p1").is(-21);
         says("Numbers have 1 or 2 digits");
         x.reads("7,9;p1").is(1).count(THE_WATER).is(7).count(9).is(9).reads("07,09;p1").is(1).count(THE_WATER).is(7).count(9).is(9);
         x.reads("00,00;p1").is(1).reads("000,1;p1").is(-22).reads("1,000;p1").is(-24).reads("007,1;p1").is(-22).reads("100,1;p1").is(-22);
@@ -860,6 +880,9 @@ public final class BoundsOfTermsTest {
         }
         x.each(0, 2, 3).each(1, 2, 1).each(2, 1, 0).each(DRUNK, 0, 0).each(PULLED, 0, 0).each(SWOLLEN, 0, 0).each(SATED, 0, 0);
         x.of(2, 0).is(BAD).seed(1).is(77).buckets(2, 1, 0, 1).is(ALL_SIZES).restore().is(1).count(0).is(4).count(THE_WATER).is(60);
+        // what is in THE TROUGH, WEAR
+        Well.at("60,0;p9").pull(0).minutes(5).count(THE_TROUGH).is(20).count(THE_WEAR).is(5).reads("60,0;p9").is(1)
+            .count(THE_TROUGH).is(0).count(THE_WEAR).is(0).holds(9).is(1000000);
         // nothing of those that were there counts for the new ones
         Well y = greedy().well(BUCKET, 8).minutes(1).reads("60,0;p9,g9").pull(0).minutes(1).is(8).of(1, SWOLLEN).is(0);
         y.beast(0, 1, 0).is(2).of(2, DRUNK).is(0);
