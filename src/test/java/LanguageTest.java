@@ -11,6 +11,8 @@ import java.util.Arrays;
 import java.util.List;
 import java.util.Set;
 import java.util.TreeSet;
+import java.util.regex.Matcher;
+import java.util.regex.Pattern;
 
 /** The face of the document, and those rules of LANGUAGE.md that can be seen from outside or by words. */
 public final class LanguageTest {
@@ -35,6 +37,7 @@ public final class LanguageTest {
         constants();
         classes();
         words();
+        library();
         lengths();
         room();
         Due.end();
@@ -116,10 +119,22 @@ public final class LanguageTest {
             String code = line.replaceAll("^\\s*(/\\*\\*|\\*).*", "").replaceAll("//.*", "");
             for (String word : RULED_OUT) {
                 boolean plain = Character.isLetter(word.charAt(0)) && Character.isLetter(word.charAt(word.length() - 1));
-                String pattern = plain ? ".*\\b" + word + "\\b.*" : ".*" + java.util.regex.Pattern.quote(word) + ".*";
+                String pattern = plain ? ".*\\b" + word + "\\b.*" : ".*" + Pattern.quote(word) + ".*";
                 Due.holds("'" + word + "' is ruled out: " + line, !code.matches(pattern));
             }
             Due.holds("signs 1 to 127: " + line, line.chars().allMatch(sign -> sign >= 1 && sign <= 127));
+        }
+    }
+
+    /** Rule 4: of the library only what stands there. */
+    private static void library() throws IOException {
+        Pattern call = Pattern.compile("\\b([A-Z]\\w*\\.\\w+)\\(");
+        Set<String> allowed = Set.of("Math.max", "Math.min", "Math.abs", "Integer.bitCount", "System.arraycopy", "Arrays.fill");
+        for (String line : source()) {
+            Matcher found = call.matcher(line);
+            while (found.find()) {
+                Due.holds("the library's " + found.group(1) + ": " + line, allowed.contains(found.group(1)));
+            }
         }
     }
 
